@@ -300,11 +300,12 @@ public final class RootSums {
 
     /**
      * With p = a + b V2 + c V3 + d V6 and q the same with -V2, p q is u + v V3, and that times
-     * u - v V3 is whole: so 1 / p is q (u - v V3) over that whole number.
+     * u - v V3 is the product of the four conjugates of p: so 1 / p is q (u - v V3) over that.
      */
     private static void invert(long[] number) {
         long u = pairWhole(number);
         long v = pairRoot3(number);
+        long norm = conjugateProduct(number);
         long a = number[0];
         long b = number[1];
         long c = number[2];
@@ -314,7 +315,7 @@ public final class RootSums {
         number[1] = m * (3 * d * v - b * u);
         number[2] = m * (c * u - a * v);
         number[3] = m * (b * v - d * u);
-        number[M] = u * u - 3 * v * v;
+        number[M] = norm;
     }
 
     /** The product of the four conjugates of m times the number. */
